@@ -484,7 +484,10 @@ public final class KeypadWriter {
             System.arraycopy(other.keys, 0, keys, 0, MAX_WORDS);
             System.arraycopy(other.counts, 0, counts, 0, MAX_WORDS);
             System.arraycopy(other.times, 0, times, 0, MAX_WORDS);
-            System.arraycopy(other.added, 0, added, 0, MAX_WORDS);
+            // LANGUAGE.md's rule 4 is plain about copying rows of numbers alone.
+            for (int word = 0; word < MAX_WORDS; word++) {
+                added[word] = other.added[word];
+            }
             size = other.size;
         }
 

@@ -5,6 +5,7 @@ final class ReadingTest {
 
     public static void main(String[] args) {
         setting();
+        chosenAskedAlone();
         place();
         display();
         candidateOrder();
@@ -35,6 +36,18 @@ final class ReadingTest {
         Checks.refusedBy(writer, "15: setting 11", Hands.ARGUMENT, () -> writer.setting(11));
         Checks.refused("15: setting -1", Hands.ARGUMENT, () -> writer.setting(-1));
         Checks.refused("15: setting MAX", Hands.ARGUMENT, () -> writer.setting(Integer.MAX_VALUE));
+    }
+
+    private static void chosenAskedAlone() {
+        KeypadWriter writer = Hands.writerWith("ad,5;be,4;");
+        Hands.type(writer, "23");
+        Checks.due("15: the chosen one of two", 0, writer.setting(Hands.CHOSEN));
+        writer.press(4);
+        Checks.due("15: the chosen one of none", -1, writer.setting(Hands.CHOSEN));
+        writer.erase();
+        Checks.due("15: the chosen one of two again", 0, writer.setting(Hands.CHOSEN));
+        writer.accept();
+        Checks.due("15: the chosen one of an empty word", -1, writer.setting(Hands.CHOSEN));
     }
 
     private static void place() {

@@ -6,6 +6,7 @@ final class StateTest {
     public static void main(String[] args) {
         undo();
         undoOfFour();
+        undoOfKinds();
         callsThatSaveNothing();
         digestOfNew();
         digestOfBusy();
@@ -41,6 +42,16 @@ final class StateTest {
         Hands.type(writer, "89");
         Checks.due("25: behind the dropped ones", 1, writer.undo());
         Checks.due("25: the right places", "238", Hands.places(writer));
+    }
+
+    private static void undoOfKinds() {
+        KeypadWriter writer = Hands.writerWith("ad,5;");
+        Hands.write(writer, "4");
+        Hands.load(writer, "be,5;cf,4;h,9;");
+        writer.undo();
+        Checks.due("25: given and added words are back", "ad/5/0/given g/1/1/added", Hands.listed(writer));
+        writer.load();
+        Checks.due("25: a load behind it", "be/5/0/given cf/4/0/given h/9/0/given", Hands.listed(writer));
     }
 
     private static void callsThatSaveNothing() {

@@ -15,7 +15,8 @@ final class WritingTest {
         acceptPlaces();
         acceptAges();
         acceptAgesFewTimes();
-        acceptIntoFullList();
+        acceptIntoFullList("z,0;");
+        acceptIntoFullList("");
         open();
         openedWordLeaves();
         Checks.finish("WritingTest");
@@ -285,9 +286,10 @@ final class WritingTest {
         Checks.due("13: all but the new one left at 6", "ddd/1/6/added", Hands.listed(writer));
     }
 
-    /** Fills the list with 50 words, 30 written at the end of the text and the others over opened words. */
-    private static void acceptIntoFullList() {
-        KeypadWriter writer = Hands.writerWith("z,0;");
+    /** Fills the list with 50 words: 30 written at the end of the text, the others over opened words. */
+    private static void acceptIntoFullList(String given) {
+        KeypadWriter writer = Hands.writerWith(given);
+        int oldest = writer.setting(Hands.WORDS);
         writer.setWays(false, 50);
         writer.mode(true);
         for (int i = 0; i < 30; i++) {
@@ -296,25 +298,21 @@ final class WritingTest {
             writer.press(2 + (key + 1 + i % 7) % 8);
             writer.accept();
         }
-        Checks.due("13: words of the list", 31, writer.setting(Hands.WORDS));
-        for (int index = 1; index <= 18; index++) {
+        Checks.due("13: words of the list", 30 + oldest, writer.setting(Hands.WORDS));
+        // No multiple of 29 comes up to the end: no word ages.
+        writer.setWays(false, 29);
+        for (int index = 1; index <= 20 - oldest; index++) {
             writer.open(index);
             Hands.write(writer, "2");
         }
-        Checks.due("13: 49 words", 49, writer.setting(Hands.WORDS));
-        writer.open(20);
-        Hands.write(writer, "5");
-        Checks.due("13: 50 words at the clock 49", 49, writer.setting(Hands.CLOCK));
         Checks.due("13: the full list", 50, writer.setting(Hands.WORDS));
-        Checks.due("13: the oldest added one", "ad", Hands.wordAt(writer, 1));
-        Checks.due("13: the given one is there", "z", Hands.wordAt(writer, 0));
-        writer.setWays(false, 49);
+        Checks.due("13: the oldest added word", "ad", Hands.wordAt(writer, oldest));
         writer.open(25);
         Hands.write(writer, "6");
         Checks.due("13: still 50 words", 50, writer.setting(Hands.WORDS));
-        Checks.due("13: the given one stays, though its count is 0", "z", Hands.wordAt(writer, 0));
-        Checks.due("13: the last added one by rank left", "ag", Hands.wordAt(writer, 1));
-        Checks.due("13: the new one is the last", 50, writer.word(49, Hands.TIME));
+        Checks.due("13: the last added one by rank left", "ag", Hands.wordAt(writer, oldest));
+        Checks.due("13: a given word stays, though its count is 0", oldest == 0 ? 1 : 0, writer.word(0, Hands.ADDED));
+        Checks.due("13: the new one is the last", writer.setting(Hands.CLOCK), writer.word(49, Hands.TIME));
         Checks.due("13: the new one is added", 1, writer.word(49, Hands.ADDED));
     }
 
