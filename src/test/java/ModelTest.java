@@ -28,9 +28,14 @@ final class ModelTest {
     }
 
     private void play() {
+        if (crowded()) {
+            crowd();
+        }
         while (calls < CALLS) {
             int kind = upTo(100);
-            if (kind < 2) {
+            if (crowded() && kind < 80) {
+                learn();
+            } else if (kind < 2) {
                 readList();
             } else if (run % 3 == 0 && kind < 30) {
                 learn();
@@ -45,6 +50,24 @@ final class ModelTest {
                 compare("digest()", writer::digest, plain::digest);
             }
         }
+    }
+
+    /** Whether the run is one of those that fill the word list, which few others come to. */
+    private boolean crowded() {
+        return run % 10 == 3;
+    }
+
+    /** Begins with 35 given words of low counts, which none of the added ones has to age beside. */
+    private void crowd() {
+        StringBuilder text = new StringBuilder();
+        for (char letter = 'a'; letter <= 'z'; letter++) {
+            text.append(letter).append(',').append(upTo(3)).append(';');
+        }
+        for (char letter = 'a'; letter <= 'i'; letter++) {
+            text.append('a').append(letter).append(',').append(upTo(3)).append(';');
+        }
+        appendAll(text);
+        compare("setWays(false, 50)", () -> writer.setWays(false, 50), () -> plain.setWays(false, 50));
     }
 
     /** A list text, right or with a wrong byte. */
@@ -62,6 +85,10 @@ final class ModelTest {
         if (upTo(3) == 0 && text.length() > 0) {
             text.setCharAt(upTo(text.length()), ",;a1 z9A".charAt(upTo(8)));
         }
+        appendAll(text);
+    }
+
+    private void appendAll(StringBuilder text) {
         for (int i = 0; i < text.length() && i < 151; i++) {
             int value = text.charAt(i);
             compare("append(" + value + ")", () -> writer.append(value), () -> plain.append(value));
